@@ -159,12 +159,12 @@ public final class HomeTest {
     due.is("treasury", x.count(5), 287 + 180000);
     due.promise(41);
     x.fund(10000);
-    x.fund(10000);
+    x.fund(9980);
     x.week(35);
     due.is("first paid", x.billed(2), 1);
     due.is("second paid", x.billed(3), 1);
     due.is("third not", x.billed(4), 2);
-    due.is("fund left", x.count(12), 20);
+    due.is("just as much was there", x.count(12), 0);
     x.week(34);
     due.is("below 0", x.count(5), 287 + 180000 - 16 * 12000);
   }
@@ -344,12 +344,27 @@ public final class HomeTest {
     due.is("as far as the coins go", y.person(1, 1), 0);
     due.is("all of it", y.person(2, 1), other + 30 + own - 30);
     due.is("stock stays", y.section(16, 3), 80);
-    SettlerColony z = rich(3, 2000);
-    z.buy(1, 12);
-    z.squat(0, 11);
-    z.stock(0, 11, 16);
-    z.week(1);
-    due.is("the next row is no neighbour", z.section(11, 3), 14);
+    strayTo(18, 6, true);
+    strayTo(18, 17, true);
+    strayTo(18, 19, true);
+    strayTo(18, 30, true);
+    strayTo(18, 5, false);
+    strayTo(18, 31, false);
+    strayTo(11, 12, false);
+    strayTo(12, 11, false);
+    strayTo(23, 24, false);
+    strayTo(24, 23, false);
+  }
+
+  private static void strayTo(int from, int to, boolean neighbours) {
+    SettlerColony x = rich(2, 2000);
+    x.buy(1, to);
+    x.squat(0, from);
+    x.stock(0, from, 16);
+    int coins = x.person(1, 1);
+    x.week(1);
+    due.is("stock of " + from + " beside " + to, x.section(from, 3), neighbours ? 16 : 14);
+    due.is("fine for " + from + " beside " + to, x.person(1, 1) - coins, neighbours ? 2 : 0);
   }
 
   /** So many PEOPLE, each with the SECTION of the own number and some COINS left; LOTS behind these, up to 35. */

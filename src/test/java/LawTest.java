@@ -202,6 +202,12 @@ public final class LawTest {
     y.buy(0, 0);
     y.vote(Colony.law(y, "votes=1000;"), 0, true);
     due.is("its own votes do not count", y.close(0), 2);
+    SettlerColony z = Colony.settled(5, 29, 6);
+    z.buy(0, 0);
+    Colony.enact(z, "votes=soil+1;");
+    z.law(0);
+    z.vote(1, 0, true);
+    due.is("votes without soil", z.close(1), 2);
   }
 
   private static void assent() {

@@ -219,6 +219,16 @@ public final class PlanTest {
     due.is("-1", x.tear(-1, 1), -1);
   }
 
+  /** Alters two numbers by 2 and by -1 so that the place would be above all, or below 1. */
+  private static int placeOf(SettlerColony x) {
+    x.image();
+    int first = x.number(0);
+    x.tear(0, first ^ first - 1);
+    int last = x.number(97);
+    x.tear(97, last ^ last + 2);
+    return x.check();
+  }
+
   private static void check() {
     due.promise(51);
     SettlerColony x = Colony.settled(2, 29, 3);
@@ -252,5 +262,6 @@ public final class PlanTest {
     y.tear(90, 1);
     y.tear(97, 4);
     due.is("d is 1 and 4, or less", y.check(), -2);
+    due.is("a whole place that there is not", placeOf(y), -2);
   }
 }
