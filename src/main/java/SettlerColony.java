@@ -1940,7 +1940,7 @@ public final class SettlerColony {
     }
 
     int priceOf(int section) {
-      return toldPrice > 0 ? toldPrice : meaning(PRICE, ground.soilOf(section));
+      return meaning(PRICE, ground.soilOf(section));
     }
 
     void sell(int person, int section, int price) {

@@ -63,6 +63,8 @@ public final class HomeTest {
     x.order(0);
     due.is("below 0", x.ship(0, 0, 0, -1), -1);
     due.is("below 0", x.ship(-1, 200, 0, 0), -1);
+    due.is("hands below 0", x.ship(0, -1, 0, 0), -1);
+    due.is("smiths below 0", x.ship(0, 0, -1, 0), -1);
     due.is("too many", x.ship(40, 40, 18, 1), -3);
     due.is("far too many", x.ship(Integer.MAX_VALUE, Integer.MAX_VALUE, Integer.MAX_VALUE, Integer.MAX_VALUE), -3);
     due.is("too little", x.ship(1, 1, 1, 0), -4);
@@ -344,16 +346,28 @@ public final class HomeTest {
     due.is("as far as the coins go", y.person(1, 1), 0);
     due.is("all of it", y.person(2, 1), other + 30 + own - 30);
     due.is("stock stays", y.section(16, 3), 80);
+    strayToTheFirst();
     strayTo(18, 6, true);
     strayTo(18, 17, true);
     strayTo(18, 19, true);
     strayTo(18, 30, true);
+    strayTo(10, 11, true);
+    strayTo(24, 12, true);
     strayTo(18, 5, false);
     strayTo(18, 31, false);
     strayTo(11, 12, false);
     strayTo(12, 11, false);
     strayTo(23, 24, false);
     strayTo(24, 23, false);
+  }
+
+  private static void strayToTheFirst() {
+    SettlerColony x = rich(2, 2000);
+    x.squat(1, 12);
+    x.stock(1, 12, 16);
+    int coins = x.person(0, 1);
+    x.week(1);
+    due.is("section 0 is above section 12", x.person(0, 1), coins + 2);
   }
 
   private static void strayTo(int from, int to, boolean neighbours) {

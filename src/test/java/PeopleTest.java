@@ -147,6 +147,11 @@ public final class PeopleTest {
     due.is("share cut", y.count(5), 200 + 10 + 12);
     y.week(1);
     due.is("passages by sales", y.as(35, 0, 5), 10 + 5);
+    SettlerColony z = Colony.settled(2, 29, 3);
+    z.buy(0, 0);
+    Colony.enact(z, "share=soil*10;");
+    due.is("bought", z.buy(1, 1), 20);
+    due.is("share without soil", z.count(5), 210 + 20);
     hiredBuys();
   }
 
@@ -215,6 +220,10 @@ public final class PeopleTest {
     z.buy(0, 5);
     Colony.enact(z, "choice=1;");
     due.is("by the law: one week is enough", z.choose(2, 0), 1);
+    SettlerColony soil = Colony.settled(3, 29, 6);
+    soil.buy(0, 5);
+    Colony.enact(soil, "choice=soil*10;");
+    due.is("choice without soil", soil.choose(2, 0), 1);
     SettlerColony late = Colony.settled(1, 9, 6);
     late.people(1, 0, 49);
     late.order(1);

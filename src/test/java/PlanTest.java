@@ -9,6 +9,7 @@ public final class PlanTest {
     prices();
     worst();
     planned();
+    plannedBySteps();
     image();
     tear();
     check();
@@ -91,6 +92,8 @@ public final class PlanTest {
     x.assent(law, false);
     due.is("as it is: one falls", x.tried(0, -1, 35, 0), 1);
     due.is("what is bought at a told price stays", x.tried(15, -1, 35, 0), 3);
+    due.is("20 is paid back, 15 is not", x.tried(15, 100, 35, 2), x.count(5) - 20);
+    due.is("nor 1", x.tried(1, 100, 35, 2), x.count(5) - 20);
     due.is("bought by the law, and undone", x.tried(0, -1, 34, 0), 2);
   }
 
@@ -179,6 +182,34 @@ public final class PlanTest {
     due.argument("and what", () -> y.planned(1, 4));
   }
 
+  /**
+   * There is one LOT. Number 1 would have it from the first WEEK on and could not keep hands to the harvest in WEEK 51;
+   * number 0, who lands just then, hires four at once. So the best is a first step at a price that nobody has.
+   */
+  private static void plannedBySteps() {
+    SettlerColony x = new SettlerColony();
+    x.land(0, 9, false);
+    x.party(9);
+    x.queue(0, 0);
+    x.people(2, 0, 45);
+    x.people(40, 0, 20);
+    for (int p = 1; p < 42; p++) x.order(p);
+    x.ship(0, 0, 0, 0);
+    x.week(17);
+    x.order(0);
+    x.ship(0, 0, 0, 0);
+    x.week(21);
+    x.prices(10, 1000, 5);
+    x.worst(1, 10, 0, 0);
+    due.is("the first step is dear", x.planned(2, 0), 1);
+    due.is("the second is not", x.planned(2, 1), 0);
+    due.is("one farm", x.planned(2, 3), 1);
+    x.prices(1000, 1000, 1000);
+    int without = x.planned(2, 2);
+    x.prices(10, 1000, 5);
+    due.is("9 by 5 of food", x.planned(2, 2), without - 45);
+  }
+
   private static void image() {
     due.promise(48);
     SettlerColony x = Colony.settled(2, 29, 3);
@@ -262,6 +293,12 @@ public final class PlanTest {
     y.tear(90, 1);
     y.tear(97, 4);
     due.is("d is 1 and 4, or less", y.check(), -2);
+    y.image();
+    int first = y.number(0);
+    y.tear(0, first ^ first + 2);
+    int second = y.number(1);
+    y.tear(1, second ^ second - 1);
+    due.is("d is 1, e is 0", y.check(), -2);
     due.is("a whole place that there is not", placeOf(y), -2);
   }
 }
