@@ -1911,6 +1911,8 @@ public final class SettlerColony {
     private int bestLot = NONE;
     private int bestPrice;
     private int wage;
+    // Who can't hire now can't till the next SALE: nobody who is OWN gets COINS while the others act.
+    private boolean nobodyHires;
 
     World(Almanac almanac, Statute[] book) {
       this.almanac = almanac;
@@ -2012,9 +2014,15 @@ public final class SettlerColony {
         sell(p, bestLot, bestPrice);
         stale = true;
       }
-      if (folk.stateOf(p) == FREE) folk.hireBy(p, folk.findBoss(wage));
+      if (folk.stateOf(p) == FREE) seekWork(p);
       if (store > 0) store--;
       else folk.starve(p);
+    }
+
+    private void seekWork(int p) {
+      int master = nobodyHires ? NONE : folk.findBoss(wage);
+      nobodyHires = master == NONE;
+      folk.hireBy(p, master);
     }
 
     private void lookAround() {
@@ -2026,6 +2034,7 @@ public final class SettlerColony {
         bestPrice = council.meaning(mask, PRICE, week, ground.farms, folk.here, soil);
       }
       wage = council.meaning(mask, WAGE, week, ground.farms, folk.here, 0);
+      nobodyHires = false;
       stale = false;
     }
 
