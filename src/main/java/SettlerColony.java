@@ -310,8 +310,8 @@ public final class SettlerColony {
   public int law(int n) throws IllegalArgumentException {
     needThat(n >= 0 && n <= taped);
     faultPlace = NONE;
-    if (now.council.size >= LAWS) return -1;
     taped = 0;
+    if (now.council.size >= LAWS) return -1;
     int fault = reader.read(tape, n);
     if (fault != 0) {
       faultPlace = reader.place;

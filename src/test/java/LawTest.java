@@ -52,8 +52,25 @@ public final class LawTest {
     for (int k = 3; k < 12; k++) due.is("more", x.law(0), k);
     due.is("there are 12", x.law(0), -1);
     due.is("12", x.count(7), 12);
+    lawWhenFull(x);
     due.index("12", () -> x.force(12));
     due.index("-1", () -> x.force(-1));
+  }
+
+  private static void lawWhenFull(SettlerColony x) {
+    Colony.feed(x, "price=5;wage=3;");
+    due.argument("21 when there are 12", () -> x.law(21));
+    due.is("an exception leaves the tape when there are 12", x.count(13), 20);
+    due.is("none of the bytes", x.law(0), -1);
+    due.is("the tape is empty then", x.count(13), 0);
+    due.argument("1 of none when there are 12", () -> x.law(1));
+    due.is("a text", Colony.law(x, "price=5;"), -1);
+    due.is("empty again", x.count(13), 0);
+    due.is("a text with a fault", Colony.law(x, "wage;"), -1);
+    due.is("no fault is looked for", x.fault(), -1);
+    due.is("empty behind that, too", x.count(13), 0);
+    due.is("a feed begins anew", x.feed(0, 0, 0, 0, 0), 20);
+    due.is("still 12", x.count(7), 12);
   }
 
   private static void text(String text, int answer, int place) {

@@ -457,10 +457,10 @@ public final class Oracle {
     did(o -> o.law(n));
     arg(n >= 0 && n <= tape.size());
     fault = NONE;
-    if (laws.size() == 12) return -1;
     StringBuilder text = new StringBuilder();
     for (int i = 0; i < n; i++) text.append((char) (int) tape.get(i));
     tape.clear();
+    if (laws.size() == 12) return -1;
     try {
       laws.add(new Parse(text.toString()).law());
       return laws.size() - 1;
