@@ -21,6 +21,46 @@ final class Colony {
     return x;
   }
 
+  /**
+   * A colony with some of all, in WEEK 35. PEOPLE: 0 has COUNTRY 0, ORDER 1 and asks; 1 RUN 2; 2 SQUAT 3 with STOCK; 3
+   * asks; 4 and 5 are at HOME. LOTS 4 to 7; a PARTY on its way to 95; a LAW that is proposed, a BILL, RAIN, a TAPE.
+   */
+  static SettlerColony busy() {
+    SettlerColony x = settled(4, 29, 8);
+    x.buy(0, 0);
+    x.choose(0, 1);
+    x.run(1, 2);
+    x.squat(2, 3);
+    x.stock(2, 3, 3);
+    x.ask(3);
+    x.ask(0);
+    x.people(2, 1, 40);
+    x.queue(0, 95);
+    law(x, "fine=2;");
+    x.feed(1, 2, 3, 4, 5);
+    x.bill(10);
+    x.fund(3);
+    x.rains(1, 7, 40);
+    return x;
+  }
+
+  /**
+   * So many PEOPLE (36 at most), each OWN by the SECTION of the own number, with so many COINS less 40; LOTS behind
+   * these up to 35, SOIL 5; it is WEEK 36.
+   */
+  static SettlerColony owners(int many, int coins) {
+    SettlerColony x = new SettlerColony();
+    for (int p = 0; p < 4; p++) {
+      x.party(9);
+      for (int s = 0; s < 9; s++) x.queue(p, 9 * p + s);
+    }
+    x.people(many, 0, coins);
+    for (int p = 0; p < many; p++) x.order(p);
+    x.ship(0, 0, 0, 0);
+    x.week(36);
+    return x;
+  }
+
   /** Puts a text on the TAPE, filled up with 0 to a whole number of feeds. */
   static void feed(SettlerColony x, String text) {
     byte[] raw = text.getBytes(StandardCharsets.ISO_8859_1);
