@@ -61,6 +61,12 @@ final class Colony {
     return x;
   }
 
+  /** So many WEEKS, above 104, too. */
+  static SettlerColony go(SettlerColony x, int weeks) {
+    for (int left = weeks; left > 0; left -= 104) x.week(Math.min(104, left));
+    return x;
+  }
+
   /** Puts a text on the TAPE, filled up with 0 to a whole number of feeds. */
   static void feed(SettlerColony x, String text) {
     byte[] raw = text.getBytes(StandardCharsets.ISO_8859_1);

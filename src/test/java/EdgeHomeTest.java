@@ -28,11 +28,6 @@ public final class EdgeHomeTest {
     due.end();
   }
 
-  /** So many WEEKS, above 104, too. */
-  private static void go(SettlerColony x, int weeks) {
-    for (int left = weeks; left > 0; left -= 104) x.week(Math.min(104, left));
-  }
-
   private static void sea() {
     due.term(1, "The SEA takes 34 WEEKS either way.");
     SettlerColony x = new SettlerColony();
@@ -441,13 +436,13 @@ public final class EdgeHomeTest {
 
   private static SettlerColony nearTheEnd() {
     SettlerColony x = Colony.busy();
-    go(x, 897 - 35);
+    Colony.go(x, 897 - 35);
     return x;
   }
 
   private static SettlerColony atTheEnd() {
     SettlerColony x = Colony.busy();
-    go(x, 965);
+    Colony.go(x, 965);
     return x;
   }
 
@@ -476,7 +471,7 @@ public final class EdgeHomeTest {
     due.term(1, "WEEK is 0 at first, 1,000 at most.");
     SettlerColony x = new SettlerColony();
     due.is("at first", x.count(0), 0);
-    go(x, 1000);
+    Colony.go(x, 1000);
     due.is("at most", x.count(0), 1000);
     due.state("no more", () -> x.week(1));
     due.is("calls are answered still", x.people(1, 0, 50), 0);

@@ -87,7 +87,8 @@ public final class EdgeLandTest {
 
   private static void neighbours() {
     due.term(1, "NEIGHBOURS are those beside, above, below.");
-    int[][] pairs = {{0, 1}, {0, 12}, {11, 10}, {11, 23}, {84, 72}, {84, 85}, {95, 94}, {95, 83}, {13, 1}, {13, 25}};
+    int[][] pairs = {{0, 1}, {0, 12}, {11, 10}, {11, 23}, {84, 72}, {84, 85}, {95, 94}, {95, 83}, {13, 1}, {13, 25},
+        {1, 0}, {13, 12}, {10, 11}, {22, 23}, {94, 95}, {12, 0}, {23, 11}};
     for (int[] pair : pairs) stray(pair[0], pair[1], true);
     int[][] apart = {{0, 11}, {11, 12}, {12, 11}, {0, 13}, {0, 84}, {0, 95}, {84, 83}, {83, 84}, {95, 0}, {13, 15}, {13, 37}};
     for (int[] pair : apart) stray(pair[0], pair[1], false);

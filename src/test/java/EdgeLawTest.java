@@ -22,6 +22,7 @@ public final class EdgeLawTest {
     wraps();
     byNothing();
     facts();
+    truth();
     year();
     limits();
     withoutALaw();
@@ -363,6 +364,13 @@ public final class EdgeLawTest {
     text("run=least (1,2);", 0, -1);
     text("run=if (1<2,3,4);", 0, -1);
     text("r un=1;", -9, 0);
+    text("runz=1;", -9, 0);
+    text("runa=1;", -9, 0);
+    text("run{=1;", -9, 3);
+    text("run`=1;", -9, 3);
+    text("run=1:", -9, 5);
+    text("run=9/9;", 0, -1);
+    text("run=weekz;", -9, 4);
     text("run=if(1<2 andnot 3<4,5,6);", -9, 11);
     text("run=if(notnot 1<2,5,6);", -9, 7);
     text("undofall;", -9, 0);
@@ -478,6 +486,55 @@ public final class EdgeLawTest {
     due.is("soil of 94", x.means(4, 94), 9);
     due.is("soil of 95", x.means(4, 95), 0);
     due.is("sold for a SECTION", x.means(3, 95), x.means(3, -1));
+    SettlerColony y = Colony.settled(2, 29, 8);
+    y.buy(0, 0);
+    Colony.enact(y, "squat=soil;wage=soil;run=soil;share=soil*20;");
+    due.is("squat of a SECTION", y.means(7, 1), 5);
+    due.is("squat is without: 0", y.squat(0, 1), -3);
+    due.is("run is without: 0", y.run(0, 1), 0);
+    y.week(2);
+    due.is("wage is without: 0", y.person(0, 1) + y.person(1, 1), 9 + 29);
+    due.is("HIRED", y.person(1, 3), 0);
+  }
+
+  private static void truth() {
+    due.term(3, "C: A { \"or\" A }. A: B { \"and\" B }. B: \"not\" B, \"[\" C \"]\", or E R E; R: <, > or =.");
+    String[] sides = {"0=1", "1=1"};
+    for (int a = 0; a < 2; a++) {
+      truth("not " + sides[a], a == 0);
+      truth("not not " + sides[a], a == 1);
+      truth("not[" + sides[a] + "]", a == 0);
+      for (int b = 0; b < 2; b++) {
+        truth(sides[a] + " and " + sides[b], a + b == 2);
+        truth(sides[a] + " or " + sides[b], a + b > 0);
+        truth("not " + sides[a] + " and " + sides[b], a == 0 && b == 1);
+        truth("not " + sides[a] + " or " + sides[b], a == 0 || b == 1);
+        for (int c = 0; c < 2; c++) {
+          truth(sides[a] + " or " + sides[b] + " and " + sides[c], a + b * c > 0);
+          truth(sides[a] + " and " + sides[b] + " or " + sides[c], a * b + c > 0);
+          truth("[" + sides[a] + " or " + sides[b] + "]and " + sides[c], (a + b) * c > 0);
+          truth("not[" + sides[a] + " or " + sides[b] + "]or " + sides[c], a + b == 0 || c == 1);
+        }
+      }
+    }
+    int[] values = {-1, 0, 1};
+    for (int a : values) {
+      for (int b : values) {
+        String left = "(" + (a + 1) + "-1)";
+        String right = "(" + (b + 1) + "-1)";
+        truth(left + "<" + right, a < b);
+        truth(left + ">" + right, a > b);
+        truth(left + "=" + right, a == b);
+      }
+    }
+    value("least(3,3)+most(4,4)", 7);
+    value("most(least(1,2),least(4,3))", 3);
+    value("if(1=1,if(1=2,3,4),5)", 4);
+    value("if(1=1,2,3)*if(1=2,5,7)", 14);
+  }
+
+  private static void truth(String c, boolean want) {
+    value("if(" + c + ",7,6)", want ? 7 : 6);
   }
 
   private static void year() {
@@ -561,6 +618,8 @@ public final class EdgeLawTest {
     council.refused("again, otherwise", -3, x -> x.vote(0, 0, false));
     SettlerColony x = council();
     due.is("on another LAW", x.vote(2, 0, true), 1);
+    due.is("again on that", x.vote(2, 0, true), -3);
+    due.is("again on that, otherwise", x.vote(2, 0, false), -3);
     x.draw(0);
     due.is("with an ACRE now", x.vote(0, 3, true), 2);
     due.is("with an ACRE and a FARM: one vote", x.vote(0, 0, true), -3);

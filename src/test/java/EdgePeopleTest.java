@@ -12,6 +12,7 @@ public final class EdgePeopleTest {
     coinsOfAWage();
     coinsPaidBack();
     ownAndFree();
+    freeAreAll();
     hiredNoMore();
     ask();
     draw();
@@ -193,6 +194,28 @@ public final class EdgePeopleTest {
     }
   }
 
+  /** PERSON 1 has hired 0 and 2 to 4, and loses all. */
+  private static void freeAreAll() {
+    due.term(2, "and so are all whom that one hired.");
+    SettlerColony x = Colony.settled(6, 29, 8);
+    x.ask(0);
+    x.draw(0);
+    Colony.enact(x, "price=20;wage=0;undo fall;");
+    x.buy(1, 0);
+    Colony.enact(x, "price=1000;wage=0;");
+    x.week(34);
+    x.assent(0, false);
+    x.week(34);
+    int[] bosses = {1, -1, 1, 1, 1, -1};
+    for (int p = 0; p < 6; p++) due.is("by whom " + p + " is HIRED", x.person(p, 3), bosses[p]);
+    x.week(1);
+    for (int p = 0; p < 6; p++) {
+      due.is("what " + p + " is", x.person(p, 2), 2);
+      due.is("by whom " + p + " is HIRED", x.person(p, 3), -1);
+      due.is("how many " + p + " hired", x.person(p, 4), 0);
+    }
+  }
+
   private static void hiredNoMore() {
     due.term(2, "Who is HIRED and gets a FARM is hired no more.");
     for (int kind = 0; kind < 2; kind++) {
@@ -210,6 +233,17 @@ public final class EdgePeopleTest {
       due.is("the others have theirs", x.person(2, 1), 28);
       due.is("from the one who hired", x.person(0, 1), 22);
     }
+    SettlerColony zero = Colony.settled(3, 26, 8);
+    zero.choose(0, 7);
+    due.is("PERSON 0 is OWN", zero.person(0, 2), 4);
+    SettlerColony first = Colony.settled(3, 26, 8);
+    first.buy(1, 1);
+    first.week(1);
+    due.is("PERSON 0 is HIRED", first.person(0, 3), 1);
+    first.buy(0, 0);
+    due.is("and buys", first.person(0, 2), 4);
+    due.is("by nobody", first.person(0, 3), -1);
+    due.is("one less", first.person(1, 4), 1);
     due.term(2, "or OWN (4): has a FARM");
     SettlerColony y = Colony.settled(2, 29, 8);
     y.run(1, 1);

@@ -36,12 +36,6 @@ public final class EdgePlanTest {
     return x;
   }
 
-  /** So many WEEKS, above 104, too. */
-  private static SettlerColony go(SettlerColony x, int weeks) {
-    for (int left = weeks; left > 0; left -= 104) x.week(Math.min(104, left));
-    return x;
-  }
-
   // ---- promise 44 ----
 
   private static void tried() {
@@ -50,6 +44,14 @@ public final class EdgePlanTest {
       int of = what;
       twins.refused("tried " + what, told().tried(15, 9, 104, what), x -> x.tried(15, 9, 104, of));
     }
+    SettlerColony rain = wet();
+    int dry = rain.tried(0, -1, 5, 1);
+    rain.prices(1, 1, 1);
+    rain.worst(1, 100, 0, 0);
+    due.is("less HUNGRY by a RAIN that is planned by", rain.planned(1, 2) < rain.tried(0, -1, 13, 1), true);
+    due.is("that is not what is tried by", rain.tried(0, -1, 5, 1), dry);
+    rain.tried(9, 9, 5, 1);
+    due.is("nor a price of another time", rain.tried(0, -1, 5, 1), dry);
     due.says(44, "IllegalArgumentException: the price is not 0 to 1,000, share not NONE to 100, WEEKS, or another what");
     SettlerColony x = told();
     due.is("price 0, share NONE, one WEEK", x.tried(0, -1, 1, 0), 2);
@@ -62,7 +64,7 @@ public final class EdgePlanTest {
 
   private static void triedAtTheEnd() {
     due.says(44, "IllegalStateException: WEEK would be above 1,000.");
-    SettlerColony x = go(told(), 896 - 35);
+    SettlerColony x = Colony.go(told(), 896 - 35);
     due.is("104 from 896 on", x.tried(0, -1, 104, 5), 4);
     x.week(1);
     due.state("104 from 897 on", () -> x.tried(0, -1, 104, 5));
@@ -78,12 +80,21 @@ public final class EdgePlanTest {
 
   /** Colonies in which something of each kind is about to be. */
   private static SettlerColony scene(int which) {
+    switch (which) {
+      case 8: return finesForWages(false);
+      case 9: return finesForWages(true);
+      case 10: return runToBuy();
+      case 11: return promiseToBuy();
+      case 12: return bossOfOthers();
+      default: break;
+    }
     SettlerColony x = which < 4 ? Colony.busy() : Colony.owners(3, 500);
     if (which == 1) x.week(16);
     if (which == 2) x.ship(2, 3, 1, 1);
-    if (which == 3) go(x, 250);
+    if (which == 3) Colony.go(x, 250);
     if (which >= 4) pastures(x);
-    if (which == 5) bills(x);
+    if (which == 5 || which == 7) bills(x);
+    if (which == 5) x.week(36);
     if (which == 6) lawsToFall(x);
     if (which == 7) x.week(51);
     return x;
@@ -108,10 +119,67 @@ public final class EdgePlanTest {
     x.pass(1);
     x.pass(1);
     x.fund(95);
-    x.week(20);
-    x.bill(77);
-    x.week(16);
-    x.bill(78);
+  }
+
+  /** What 0 can pay as wages comes from fines for the STOCK of 1, unless it is fenced. */
+  private static SettlerColony finesForWages(boolean fenced) {
+    SettlerColony x = new SettlerColony();
+    x.party(9);
+    x.queue(0, 0);
+    x.queue(0, 1);
+    x.people(1, 0, 42);
+    x.people(1, 2, 42);
+    x.people(1, 0, 42);
+    for (int p = 0; p < 3; p++) x.order(p);
+    x.ship(0, 0, 0, 0);
+    x.week(35);
+    x.buy(0, 0);
+    x.squat(1, 1);
+    x.stock(1, 1, 8);
+    if (fenced) x.fence(1, 1);
+    return x;
+  }
+
+  /** The RUN of 0 is the only LOT to be. */
+  private static SettlerColony runToBuy() {
+    SettlerColony x = Colony.settled(2, 29, 1);
+    x.run(0, 0);
+    x.ask(0);
+    x.draw(0);
+    Colony.enact(x, "price=5;");
+    return x;
+  }
+
+  /** Of two LOTS the one of the lesser SOIL has the greater PROMISE, by the RAIN that is SEEN; who buys it is at SEA. */
+  private static SettlerColony promiseToBuy() {
+    SettlerColony x = new SettlerColony();
+    x.party(9);
+    x.land(1, 4, false);
+    x.land(3, 8, false);
+    x.queue(0, 0);
+    x.queue(0, 1);
+    x.queue(0, 3);
+    x.people(1, 0, 20);
+    x.order(0);
+    x.ship(0, 0, 0, 0);
+    x.week(35);
+    x.squat(0, 0);
+    x.ask(0);
+    x.draw(0);
+    Colony.enact(x, "price=soil*5;share=0;");
+    x.people(1, 0, 90);
+    x.week(17);
+    x.order(1);
+    x.ship(0, 0, 0, 0);
+    return x;
+  }
+
+  /** PERSON 1 has hired 0, 2 and 3, and can pay two of them once. */
+  private static SettlerColony bossOfOthers() {
+    SettlerColony x = Colony.settled(4, 24, 8);
+    x.buy(1, 0);
+    x.week(1);
+    return x;
   }
 
   private static void lawsToFall(SettlerColony x) {
@@ -128,8 +196,8 @@ public final class EdgePlanTest {
   private static void triedAsItWillBe() {
     due.term(7, "by all RAINS that are told, no call in between: what is then");
     int[] counts = {3, 6, 5, 4};
-    for (int which = 0; which < 8; which++) {
-      for (int weeks : new int[] {1, 2, 16, 17, 33, 34, 35, 36, 52, 53, 68, 69, 70, 103, 104}) {
+    for (int which = 0; which < 13; which++) {
+      for (int weeks : new int[] {1, 2, 3, 4, 5, 16, 17, 33, 34, 35, 36, 52, 53, 54, 68, 69, 70, 103, 104}) {
         SettlerColony x = scene(which);
         SettlerColony then = scene(which);
         then.week(weeks);
@@ -341,7 +409,7 @@ public final class EdgePlanTest {
     int[] weeks = {974, 975, 987, 988, 1000};
     int[] steps = {2, 1, 1, 0, 0};
     for (int k = 0; k < weeks.length; k++) {
-      SettlerColony x = go(told(), weeks[k] - 35);
+      SettlerColony x = Colony.go(told(), weeks[k] - 35);
       for (int step = 1; step < 3; step++) {
         int many = step;
         String what = step + " STEPS from " + weeks[k] + " on";

@@ -26,11 +26,6 @@ public final class EdgeWeekTest {
     due.end();
   }
 
-  /** So many WEEKS, above 104, too. */
-  private static void go(SettlerColony x, int weeks) {
-    for (int left = weeks; left > 0; left -= 104) x.week(Math.min(104, left));
-  }
-
   private static void order() {
     due.term(6, "A WEEK goes by, in this order. (a) SHIPS that are due land, by number: their PEOPLE are FREE.");
     SettlerColony x = new SettlerColony();
@@ -492,7 +487,7 @@ public final class EdgeWeekTest {
     due.is("its STOCK is gone", x.section(1, 3), 0);
     due.is("its FENCE, too", x.section(1, 4), 0);
     SettlerColony y = Colony.settled(1, 29, 4);
-    go(y, 915);
+    Colony.go(y, 915);
     due.is("a RUN in WEEK 950", y.run(0, 1), 5);
     due.is("that would end at 1,002", y.section(1, 2), 1002);
     y.week(50);
@@ -636,6 +631,24 @@ public final class EdgeWeekTest {
     x.week(1);
     due.is("strays first, then a fourth of 7", x.section(20, 3), 8);
     due.is("a fourth of 7", x.section(22, 3), 8);
+    due.term(6, "STOCK of each PASTURE");
+    for (int section : new int[] {0, 95}) {
+      SettlerColony y = new SettlerColony();
+      y.party(9);
+      y.queue(0, section);
+      y.people(1, 0, 49);
+      y.order(0);
+      y.ship(0, 0, 0, 0);
+      y.week(40);
+      y.run(0, section);
+      y.stock(0, section, 4);
+      y.week(12);
+      due.is("STOCK of " + section, y.section(section, 3), 5);
+      y.week(40);
+      due.is("a RUN still", y.section(section, 0), 4);
+      y.week(1);
+      due.is("it ends", y.section(section, 0), 1);
+    }
   }
 
   private static void lastWeekOnly() {

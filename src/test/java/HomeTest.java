@@ -302,7 +302,7 @@ public final class HomeTest {
   }
 
   private static void strays() {
-    SettlerColony x = rich(3, 2000);
+    SettlerColony x = Colony.owners(3, 2000);
     x.squat(0, 14);
     x.stock(0, 14, 7);
     x.squat(1, 16);
@@ -319,7 +319,7 @@ public final class HomeTest {
   }
 
   private static void fines() {
-    SettlerColony x = rich(3, 2000);
+    SettlerColony x = Colony.owners(3, 2000);
     x.buy(1, 13);
     x.buy(0, 15);
     x.squat(0, 14);
@@ -330,7 +330,7 @@ public final class HomeTest {
     due.is("to the least neighbour", x.person(2, 1), coins[2] + 12);
     due.is("not to the next", x.person(1, 1), coins[1]);
     due.is("stock stays", x.section(14, 3), 100);
-    SettlerColony y = rich(3, 2000);
+    SettlerColony y = Colony.owners(3, 2000);
     y.buy(1, 4);
     y.buy(2, 15);
     y.squat(1, 16);
@@ -362,7 +362,7 @@ public final class HomeTest {
   }
 
   private static void strayToTheFirst() {
-    SettlerColony x = rich(2, 2000);
+    SettlerColony x = Colony.owners(2, 2000);
     x.squat(1, 12);
     x.stock(1, 12, 16);
     int coins = x.person(0, 1);
@@ -371,7 +371,7 @@ public final class HomeTest {
   }
 
   private static void strayTo(int from, int to, boolean neighbours) {
-    SettlerColony x = rich(2, 2000);
+    SettlerColony x = Colony.owners(2, 2000);
     x.buy(1, to);
     x.squat(0, from);
     x.stock(0, from, 16);
@@ -379,25 +379,6 @@ public final class HomeTest {
     x.week(1);
     due.is("stock of " + from + " beside " + to, x.section(from, 3), neighbours ? 16 : 14);
     due.is("fine for " + from + " beside " + to, x.person(1, 1) - coins, neighbours ? 2 : 0);
-  }
-
-  /** So many PEOPLE, each with the SECTION of the own number and some COINS left; LOTS behind these, up to 35. */
-  private static SettlerColony rich(int many, int coins) {
-    SettlerColony x = new SettlerColony();
-    for (int p = 0; p < 4; p++) x.party(9);
-    for (int p = 0; p < 4; p++) {
-      for (int s = 0; s < 9; s++) {
-        x.land(9 * p + s, 5, false);
-        x.queue(p, 9 * p + s);
-      }
-    }
-    x.people(many, 0, coins);
-    for (int p = 0; p < many; p++) x.order(p);
-    x.ship(0, 0, 0, 0);
-    x.week(35);
-    for (int p = 0; p < many; p++) due.is("bought the first", x.section(p, 1), p);
-    x.week(1);
-    return x;
   }
 
   private static void runs() {
@@ -474,7 +455,7 @@ public final class HomeTest {
   }
 
   private static void breed() {
-    SettlerColony x = rich(2, 6000);
+    SettlerColony x = Colony.owners(2, 6000);
     x.squat(0, 14);
     x.stock(0, 14, 7);
     x.squat(1, 16);
