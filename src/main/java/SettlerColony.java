@@ -675,7 +675,6 @@ public final class SettlerColony {
   /** The SECTIONS: what each is like, what it is held as and by whom; and the RAIN that their ZONES had. */
   private static final class Ground {
     final int[] soil = new int[SECTIONS];
-    final boolean[] water = new boolean[SECTIONS];
     final int[] wanted = new int[SECTIONS];
     final int[] holding = new int[SECTIONS];
     final int[] owner = new int[SECTIONS];
@@ -708,10 +707,7 @@ public final class SettlerColony {
       System.arraycopy(from.stock, 0, stock, 0, SECTIONS);
       System.arraycopy(from.paid, 0, paid, 0, SECTIONS);
       System.arraycopy(from.teller, 0, teller, 0, SECTIONS);
-      for (int s = 0; s < SECTIONS; s++) {
-        water[s] = from.water[s];
-        fenced[s] = from.fenced[s];
-      }
+      for (int s = 0; s < SECTIONS; s++) fenced[s] = from.fenced[s];
       farms = from.farms;
       System.arraycopy(from.yearRain, 0, yearRain, 0, ZONES);
       System.arraycopy(from.seenYears, 0, seenYears, 0, ZONES);
@@ -721,7 +717,6 @@ public final class SettlerColony {
     boolean shape(int s, int howGood, boolean wet) {
       if (!isWild(s)) return false;
       soil[s] = howGood;
-      water[s] = wet;
       wanted[s] = 6 + (wet ? 3 : 0) + (9 - howGood) / 3;
       return true;
     }

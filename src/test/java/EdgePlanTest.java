@@ -93,7 +93,7 @@ public final class EdgePlanTest {
     if (which == 2) x.ship(2, 3, 1, 1);
     if (which == 3) Colony.go(x, 250);
     if (which >= 4) pastures(x);
-    if (which == 5 || which == 7) bills(x);
+    if (which == 4 || which == 5 || which == 7) bills(x);
     if (which == 5) x.week(36);
     if (which == 6) lawsToFall(x);
     if (which == 7) x.week(51);
@@ -116,8 +116,8 @@ public final class EdgePlanTest {
   private static void bills(SettlerColony x) {
     for (int sum = 30; sum < 34; sum++) x.bill(sum);
     x.pass(0);
-    x.pass(1);
-    x.pass(1);
+    x.pass(3);
+    x.pass(3);
     x.fund(95);
   }
 
